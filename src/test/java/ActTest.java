@@ -83,23 +83,36 @@ public final class ActTest {
         for (int r = 0; r < 4; r++) Check.due("46 row " + r, b.isThere(1, r), r == 3);
         Check.due("46 courses stay", b.isThere(0, 0), true);
         b.undo();
+        b.addAct();
+        b.stepRemove(1, 0, 0);
+        b.remove(0, 2);
+        Check.due("46 all bookings", b.run(1), true);
+        for (int r = 0; r < 4; r++) Check.due("46 booking " + r, b.isThere(1, r), false);
+        b.undo();
+        promise46Refusals(b);
+    }
+
+    private static void promise46Refusals(ClubBase b) {
         b.setRemoval(1, 0, ClubBase.FOLLOWS);
         b.addAct();
-        b.stepRemove(1, 1, 6);
-        Check.due("46 by a reckoned column, each row once", b.run(1), true);
+        b.stepRemove(2, 1, 6);
+        Check.due("46 by a reckoned column, each row once", b.run(2), true);
         Check.due("46 joined row", b.isThere(0, 1), false);
         Check.due("46 followed", b.isThere(1, 2), false);
         b.undo();
         b.setRemoval(1, 0, ClubBase.FORBIDS);
-        Check.due("46 refused", b.run(1), false);
+        Check.due("46 refused", b.run(2), false);
         Check.reason("46 refused", b, ClubBase.FORBIDDEN, 1, 0, 0);
         b.ask(12, -1);
         b.addAct();
-        b.stepRemove(2, 4, 0);
-        Check.due("46 from no table", b.run(2), false);
+        b.stepRemove(3, 4, 0);
+        Check.due("46 from no table", b.run(3), false);
         Check.reason("46 from no table", b, ClubBase.UNWRITABLE, -1, -1, -1);
         b.condition(4, 0, 0, ClubBase.IS, 99);
-        Check.due("46 no answers", b.run(2), true);
+        Check.due("46 no answers", b.run(3), true);
+    }
+
+    private static void promise46Wrong() {
         Check.wrong("46 act", Check.INDEX, Club::all, x -> x.stepRemove(1, 0, 0));
         Check.wrong("46 question", Check.INDEX, Club::all, x -> x.stepRemove(0, 4, 0));
         Check.wrong("46 column", Check.INDEX, Club::all, x -> x.stepRemove(0, 0, 4));
@@ -253,6 +266,7 @@ public final class ActTest {
         promise44StepPut();
         promise45StepAdd();
         promise46StepRemove();
+        promise46Wrong();
         promise47StepIf();
         promise48Run();
         promise49Undoable();

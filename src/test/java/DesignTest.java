@@ -90,6 +90,7 @@ public final class DesignTest {
         b.addReckoned(2, ClubBase.LOOK, 0, 3, 5);
         Check.due("5 look at a look", b.cell(2, 0, 2), 20);
         promise05Limits();
+        promise05First();
         Check.wrong("5 table", Check.INDEX, Club::all, x -> x.addReckoned(3, 9, 0, 0, 0));
         Check.wrong("5 formula", Check.ARGUMENT, Club::all, x -> x.addReckoned(0, 5, 99, 99, 99));
         Check.wrong("5 formula below", Check.ARGUMENT, Club::all, x -> x.addReckoned(0, -1, 0, 0, 0));
@@ -105,6 +106,8 @@ public final class DesignTest {
         Check.wrong("5 count link elsewhere", Check.ARGUMENT, Club::all, x -> x.addReckoned(0, ClubBase.COUNT, 2, 99, 1));
         Check.wrong("5 dropped two", Check.ARGUMENT, DesignTest::dropped, x -> x.addReckoned(0, ClubBase.ADD, 0, 4, 0));
         Check.wrong("5 dropped link", Check.ARGUMENT, DesignTest::dropped, x -> x.addReckoned(0, ClubBase.LOOK, 4, 0, 0));
+        Check.wrong("5 dropped two of LOOK", Check.ARGUMENT, DesignTest::dropped, x -> x.addReckoned(1, ClubBase.LOOK, 0, 4, 0));
+        Check.wrong("5 dropped two of TOTAL", Check.ARGUMENT, x -> { Club.all(x); x.addNumber(1, 0, 9); x.drop(1, 4); }, x -> x.addReckoned(0, ClubBase.TOTAL, 0, 4, 1));
         Check.wrong("5 six columns", Check.STATE, DesignTest::sixColumns, x -> x.addReckoned(0, ClubBase.ADD, 0, 0, 0));
         Check.wrong("5 link before six columns", Check.ARGUMENT, DesignTest::sixColumns, x -> x.addReckoned(0, ClubBase.LOOK, 0, 0, 0));
     }
@@ -137,6 +140,29 @@ public final class DesignTest {
         Check.due("5 total above", b.cell(0, 0, 4), B);
         Club.enter(b, 0, -9999, 1, 0);
         Check.due("5 total back in range", b.cell(0, 0, 4), 990001);
+        for (int r = 0; r < 4; r++) b.remove(0, r);
+        Club.enter(b, 0, -9999, 100, 4);
+        Club.enter(b, 0, -99, 1, 4);
+        Check.due("5 total -999999", b.cell(0, 4, 4), -999999);
+        Club.enter(b, 0, -1, 1, 4);
+        Check.due("5 total below", b.cell(0, 4, 4), B);
+    }
+
+    /** A reckoned column can be the very first one. */
+    private static void promise05First() {
+        ClubBase b = new ClubBase();
+        b.addTable();
+        b.addTable();
+        b.addLink(1, 0, ClubBase.FOLLOWS);
+        Check.due("5 first column", b.addReckoned(0, ClubBase.COUNT, 0, 99, 1), 0);
+        Check.due("16 first column", b.order(0), 0);
+        Check.due("5 second column", b.addReckoned(0, ClubBase.ADD, 0, 0, 0), 1);
+        b.enter(0);
+        Club.enter(b, 1, 0);
+        Check.due("5 first cell", b.cell(0, 0, 0), 1);
+        Check.due("5 second cell", b.cell(0, 0, 1), 2);
+        Check.due("6 first column", b.reckonAnew(0, 0, ClubBase.ADD, 1, 1, 0), false);
+        used("link of the first column", b, 1, 0);
     }
 
     private static void dropped(ClubBase b) {
@@ -163,6 +189,9 @@ public final class DesignTest {
         Check.due("6 count as it was", b.cell(0, 1, 3), 2);
         b.enter(2);
         Check.due("6 formula as it was", b.cell(0, 1, 3), 2);
+        b.put(0, 1, 0, 9);
+        Check.due("6 breaks it again", b.reckonAnew(0, 3, ClubBase.TIMES, 1, 1, 0), false);
+        Check.due("6 the cell that was put", b.cell(0, 1, 0), 9);
         Check.wrong("6 table", Check.INDEX, Club::all, x -> x.reckonAnew(3, 0, 9, 0, 0, 0));
         Check.wrong("6 column", Check.INDEX, Club::all, x -> x.reckonAnew(0, 4, 9, 0, 0, 0));
         Check.wrong("6 number before kind", Check.INDEX, Club::all, x -> x.reckonAnew(0, 0, ClubBase.ADD, 0, 9, 0));
@@ -177,6 +206,9 @@ public final class DesignTest {
         Check.due("7 refused", b.need(1, 1, true), false);
         Check.reason("7 refused", b, ClubBase.NEED, 1, 2, 1);
         Check.due("7 not needed", b.put(1, 0, 1, B), true);
+        Check.due("7 refused again", b.need(1, 1, true), false);
+        Check.reason("7 refused again", b, ClubBase.NEED, 1, 0, 1);
+        Check.due("7 the cell that was put", b.cell(1, 0, 1), B);
         Check.due("7 needed", b.need(0, 0, true), true);
         Check.due("7 BLANK refused", b.put(0, 0, 0, B), false);
         Check.reason("7 BLANK refused", b, ClubBase.NEED, 0, 0, 0);
@@ -194,6 +226,8 @@ public final class DesignTest {
         Check.due("8 refused", b.single(1, 0, true), false);
         Check.reason("8 refused", b, ClubBase.SINGLE, 1, 2, 0);
         Check.due("8 not single", b.put(1, 3, 0, 1), true);
+        Check.due("8 refused again", b.single(1, 0, true), false);
+        Check.due("8 the cell that was put", b.cell(1, 3, 0), 1);
         Check.due("8 single", b.single(1, 1, true), true);
         Check.due("8 the same above", b.put(1, 0, 1, 5), false);
         Check.reason("8 the same above", b, ClubBase.SINGLE, 1, 3, 1);
@@ -237,7 +271,11 @@ public final class DesignTest {
         Check.due("10 refused", b.narrow(0, 0, 2, 9), false);
         Check.reason("10 refused", b, ClubBase.NEED, 0, 0, 0);
         Check.due("10 cell as it was", b.cell(0, 0, 0), 1);
-        Check.due("10 range as it was", b.put(0, 0, 0, 0), true);
+        Check.due("10 least as it was", b.put(0, 0, 0, 0), true);
+        Check.due("10 refused again", b.narrow(0, 0, 1, 5), false);
+        Check.due("10 the cell that was put", b.cell(0, 0, 0), 0);
+        Check.due("10 most as it was", b.put(0, 0, 0, 9), true);
+        Check.due("10 above it", b.put(0, 0, 0, 10), false);
         Check.wrong("10 column", Check.INDEX, Club::all, x -> x.narrow(1, 4, 0, 9));
         Check.wrong("10 reckoned", Check.ARGUMENT, Club::all, x -> x.narrow(1, 3, 0, 9));
         Check.wrong("10 range", Check.ARGUMENT, Club::all, x -> x.narrow(1, 1, -10000, 9));
@@ -279,6 +317,7 @@ public final class DesignTest {
         Check.due("12 needed", b.drop(2, 1), true);
         Check.due("12 needed no more", Club.enter(b, 2), 1);
         int rule = b.addRule(0, 0, ClubBase.UNLIKE, 0, 1);
+        Check.due("12 a rule of another table", b.drop(2, 0), true);
         used("rule", b, 0, 0);
         b.dropRule(rule);
         Check.due("12 dropped rule", b.drop(0, 0), true);
@@ -349,7 +388,8 @@ public final class DesignTest {
         Check.wrong("14 other", Check.INDEX, Club::all, x -> x.addRule(0, 0, 9, 4, 0));
         Check.wrong("14 relation", Check.ARGUMENT, Club::all, x -> x.addRule(0, 0, 4, 0, 0));
         Check.wrong("14 more", Check.ARGUMENT, Club::all, x -> x.addRule(0, 0, 3, 0, -10000));
-        Check.wrong("14 dropped", Check.ARGUMENT, DesignTest::dropped, x -> x.addRule(0, 0, 0, 4, 0));
+        Check.wrong("14 dropped other", Check.ARGUMENT, DesignTest::dropped, x -> x.addRule(0, 0, 0, 4, 0));
+        Check.wrong("14 dropped one", Check.ARGUMENT, DesignTest::dropped, x -> x.addRule(0, 4, 0, 0, 0));
         Check.wrong("14 more before eight", Check.ARGUMENT, DesignTest::eightRules, x -> x.addRule(0, 0, 0, 0, 10000));
         Check.wrong("14 eight", Check.STATE, DesignTest::eightRules, x -> x.addRule(0, 0, 3, 0, 0));
     }

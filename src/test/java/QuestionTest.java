@@ -155,6 +155,7 @@ public final class QuestionTest {
         for (int r = 0; r < 4; r++) b.remove(1, r);
         Check.due("36 no answers", b.answers(4), 0);
         Check.due("36 one column", b.columns(4), 1);
+        promise36Widest();
         Check.wrong("36 table", Check.INDEX, Club::all, x -> x.askCross(3, 0, 0, 0));
         Check.wrong("36 question", Check.INDEX, Club::all, x -> x.askCross(14, 0, 0, 0));
         Check.wrong("36 first", Check.INDEX, Club::all, x -> x.askCross(1, 4, 0, 0));
@@ -162,6 +163,28 @@ public final class QuestionTest {
         Check.wrong("36 value", Check.INDEX, Club::all, x -> x.askCross(1, 0, 0, 4));
         Check.wrong("36 cross", Check.ARGUMENT, Club::all, x -> x.askCross(13, 0, 0, 0));
         Check.wrong("36 eight", Check.STATE, QuestionTest::eight, x -> x.askCross(1, 0, 0, 0));
+    }
+
+    /** Thirty rows with other keys each, the middle ones last. */
+    private static void promise36Widest() {
+        ClubBase b = new ClubBase();
+        b.addTable();
+        b.addNumber(0, -9999, 9999);
+        for (int r = 0; r < 15; r++) {
+            Club.enter(b, 0, r);
+            Club.enter(b, 0, 29 - r);
+        }
+        b.askCross(0, 0, 0, 0);
+        b.askGroups(0, 0, 0);
+        Check.due("36 thirty", b.answers(0), 30);
+        Check.due("36 thirty-one", b.columns(0), 31);
+        for (int k = 0; k < 30; k += 1) {
+            Check.due("36 on the diagonal " + k, b.answer(0, k, k + 1), k);
+            Check.due("36 beside it " + k, b.answer(0, k, 30 - k), 29 - k == k ? k : B);
+            Check.due("36 first " + k, b.answer(0, k, 0), k);
+            Check.due("40 second " + k, b.keyOf(0, k + 1), k);
+            Check.due("35 group " + k, b.answer(1, k, 4), k);
+        }
     }
 
     private static void promise37Answers() {
@@ -267,6 +290,26 @@ public final class QuestionTest {
         Check.wrong("42 value before UNWRITABLE", Check.ARGUMENT, Club::all, x -> x.write(2, 0, 0, -10000));
     }
 
+    /** Eight questions that join, one over the other. */
+    private static void promise42Deepest() {
+        ClubBase b = new ClubBase();
+        b.addTable();
+        b.addLink(0, 0, ClubBase.BLANKS);
+        for (int c = 1; c < 6; c++) b.addNumber(0, 0, 99);
+        b.enter(0);
+        for (int r = 1; r < 12; r++) Club.enter(b, 0, r - 1, r);
+        b.ask(0, 0);
+        for (int q = 1; q < 8; q++) b.ask(9 + q, 6 * q);
+        Check.due("38 widest", b.columns(7), 54);
+        Check.due("37 deepest", b.answers(7), 4);
+        for (int part = 0; part < 9; part++) {
+            Check.due("39 deepest " + part, b.answer(7, 3, 6 * part + 1), 11 - part);
+            Check.due("41 deepest " + part, b.target(7, 3, 6 * part + 5), 10 * (11 - part) + 5);
+            Check.due("42 deepest " + part, b.write(7, 3, 6 * part + 5, 50 + part), true);
+            Check.due("42 written " + part, b.cell(0, 11 - part, 5), 50 + part);
+        }
+    }
+
     public static void main(String[] args) {
         promise33Ask();
         promise34Condition();
@@ -278,6 +321,7 @@ public final class QuestionTest {
         promise40KeyOf();
         promise41Target();
         promise42Write();
+        promise42Deepest();
         Check.end("QuestionTest");
     }
 }

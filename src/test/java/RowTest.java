@@ -146,6 +146,35 @@ public final class RowTest {
         b.put(0, 3, 0, 4);
         Check.due("26 a ring", b.remove(0, 4), true);
         Check.due("26 ring row", b.isThere(0, 3), false);
+        promise26Six();
+    }
+
+    /** All six links of the first row lead to the row that goes. */
+    private static void promise26Six() {
+        ClubBase b = new ClubBase();
+        b.addTable();
+        for (int c = 0; c < 6; c++) b.addLink(0, 0, ClubBase.BLANKS);
+        b.enter(0);
+        b.enter(0);
+        for (int c = 0; c < 6; c++) b.put(0, 0, c, 1);
+        Check.due("26 six links", b.remove(0, 1), true);
+        for (int c = 0; c < 6; c++) Check.due("26 link " + c, b.cell(0, 0, c), B);
+        b.enter(0);
+        b.put(0, 0, 5, 2);
+        b.setRemoval(0, 5, ClubBase.FORBIDS);
+        Check.due("26 forbidden by the first row", b.remove(0, 2), false);
+        Check.reason("26 forbidden by the first row", b, ClubBase.FORBIDDEN, 0, 0, 5);
+        b.setRemoval(0, 5, ClubBase.BLANKS);
+        b.need(0, 5, false);
+        b.put(0, 2, 5, 2);
+        b.need(0, 5, true);
+        b.put(0, 0, 4, 0);
+        Check.due("26 needed by the first row", b.remove(0, 2), false);
+        Check.due("26 the cell that was put", b.cell(0, 0, 4), 0);
+        b.need(0, 5, false);
+        b.setRemoval(0, 5, ClubBase.FOLLOWS);
+        Check.due("26 followed by the first row", b.remove(0, 2), true);
+        Check.due("26 first row", b.isThere(0, 0), false);
     }
 
     private static void promise27OpenForm() {
