@@ -247,6 +247,19 @@ public final class DesignEdgeTest {
         Check.due("a link that was dropped forbids, follows and blanks nothing", b.remove(0, 0), true);
     }
 
+    /** Promise 12: all thirty cells become BLANK, those of the columns beside it stay. */
+    static void droppingOfThirtyCells() {
+        ClubBase b = numbers();
+        b.addNumber(0, -9999, 9999);
+        b.addNumber(0, -9999, 9999);
+        for (int r = 0; r < 30; r++) Club.enter(b, 0, r, 100 + r, 200 + r);
+        Check.due("would be lost", b.wouldLoseAll(0, 1), 30);
+        Check.due("dropped", b.drop(0, 1), true);
+        column("thirty BLANK cells", b, 1, blanks(30));
+        Check.due("nothing is left", b.wouldLoseAll(0, 1), 0);
+        for (int r = 0; r < 30; r++) Check.due("beside row " + r, b.cell(0, r, 2) - b.cell(0, r, 0), 200);
+    }
+
     /** Promise 13: "Returns what it did before"; each to each other one and to itself. */
     static void setRemovalTellsWhatItDidBefore() {
         for (int before = 0; before < 3; before++) {

@@ -187,6 +187,30 @@ public final class RefusalsEdgeTest {
         Check.due("to row 29", b.put(0, 0, 0, 29), true);
     }
 
+    /** A link that does not lead to a row is refused also if formulas take cells over it. */
+    static void brokenByALinkThatFormulasUse() {
+        Check.Calls setup = x -> {
+            for (int t = 0; t < 2; t++) x.addTable();
+            x.addNumber(0, 0, 9);
+            x.addLink(1, 0, ClubBase.BLANKS);
+            x.addNumber(1, 0, 9);
+            x.addReckoned(0, ClubBase.TOTAL, 0, 1, 1);
+            x.addReckoned(0, ClubBase.COUNT, 0, 1, 1);
+            x.addReckoned(1, ClubBase.LOOK, 0, 0, 0);
+            Club.enter(x, 0, 7);
+            Club.enter(x, 0, 8);
+            Club.enter(x, 1, 1, 5);
+            x.remove(0, 0);
+            x.ask(1, -1);
+        };
+        int[] wrong = {0, 2, -1, -2, 29, 30, 31, 60, 9999, -9999};
+        for (int row : wrong) {
+            Check.refused("put " + row, setup, x -> x.put(1, 0, 0, row), LINK, 1, 0, 0);
+            Check.refused("write " + row, setup, x -> x.write(0, 0, 0, row), LINK, 1, 0, 0);
+            Check.refused("enter " + row, x -> { setup.on(x); x.type(0, row); }, x -> x.enter(1) >= 0, LINK, 1, 1, 0);
+        }
+    }
+
     /** A row that is being entered is there: a link of it can lead to itself, not to one behind it. */
     static void aNewRowCanLeadToItself() {
         ClubBase b = new ClubBase();

@@ -341,6 +341,25 @@ public final class RowsEdgeTest {
         Check.due("then it is BLANK", b.cell(2, 0, 1), B);
     }
 
+    /** The first cell that forbids can be in any row, the last one, too; thirty cells can become BLANK at once. */
+    static void cellsOfThirtyRowsForbidOrBecomeBlank() {
+        ClubBase b = tables(3);
+        b.addLink(2, 1, FORBIDS);
+        b.addNumber(2, 0, 99);
+        b.addLink(2, 1, BLANKS);
+        Club.enter(b, 1);
+        for (int r = 0; r < 30; r++) Club.enter(b, 2, B, r, 0);
+        int[] forbidding = {29, 24, 12, 7, 6, 5, 0};
+        for (int row : forbidding) {
+            b.put(2, row, 0, 0);
+            Check.due("forbidden", b.remove(1, 0), false);
+            Check.reason("forbidden", b, ClubBase.FORBIDDEN, 2, row, 0);
+        }
+        for (int row : forbidding) b.put(2, row, 0, B);
+        Check.due("nothing forbids", b.remove(1, 0), true);
+        for (int r = 0; r < 30; r++) cells("row " + r, b, 2, r, B, r, B);
+    }
+
     /** FORBIDDEN is told ahead of what would be broken. */
     static void forbiddenIsToldAheadOfWhatIsBroken() {
         ClubBase b = tables(2);
