@@ -203,7 +203,9 @@ public final class ModelTest {
         while (told.size() < CALLS) {
             String[] words = calls.get(any(calls.size())).split(" ");
             int[] arguments = new int[words.length - 1];
-            for (int i = 0; i < arguments.length; i++) arguments[i] = argument(words[i + 1]);
+            for (int i = 0; i < arguments.length; i++) {
+                arguments[i] = any(150) == 0 ? pick(Integer.MIN_VALUE, Integer.MAX_VALUE, -1, 10) : argument(words[i + 1]);
+            }
             call(words[0], arguments);
         }
     }
